@@ -365,7 +365,7 @@ public final class OneChairShort {
         }
         tried.takeFrom(town);
         search.begin(state, person, NONE, n);
-        search.goOn(0, 0);
+        search.tryAll();
         search.tellMoves(answers);
         return n - search.best;
     }
@@ -379,7 +379,7 @@ public final class OneChairShort {
         }
         tried.takeFrom(town);
         search.begin(state, one, other, n);
-        search.goOn(0, 0);
+        search.tryAll();
         search.tellMoves(answers);
         return search.best;
     }
@@ -1356,9 +1356,16 @@ public final class OneChairShort {
     /** Reads THE TEXT as a rule; where it answers false, the text stands at the wrong sign. */
     private static final class RuleReader {
         private static final int MOST_IN_ONE_ANOTHER = 4;
+        private static final int OPENED = 0;
+        private static final int COMPARES = 1;
 
         final Rule rule = new Rule('t');
         private final Text text;
+        /** Steps that can't be done yet, as what they join is not read yet. */
+        private final int[] waiting = new int[RULE_SIGNS];
+        private int waits;
+        private int depth;
+        private int comparedAtDepths;
 
         RuleReader(Text text) {
             this.text = text;
@@ -1366,75 +1373,103 @@ public final class OneChairShort {
 
         boolean read() {
             rule.clear();
+            waits = 0;
+            depth = 0;
+            comparedAtDepths = 0;
             text.startReading(RULE_SIGNS);
-            return comparison(0) && text.isRead();
-        }
-
-        private boolean comparison(int depth) {
-            if (!addition(depth)) {
-                return false;
-            }
-            int sign = text.next();
-            if (sign != '<' && sign != '>' && sign != '=') {
-                return true;
-            }
-            text.take(sign);
-            return addition(depth) && add(Rule.JOIN + sign);
-        }
-
-        private boolean addition(int depth) {
-            boolean right = multiplication(depth);
-            for (int k = 0; k < RULE_SIGNS && right; k++) {
-                int sign = text.next();
-                if (sign != '+' && sign != '-') {
+            for (int k = 0; k < RULE_SIGNS; k++) {
+                readAheadOfThing();
+                if (!readThing()) {
+                    return false;
+                }
+                readClosings();
+                if (!readJoin()) {
                     break;
                 }
-                text.take(sign);
-                right = multiplication(depth) && add(Rule.JOIN + sign);
             }
-            return right;
+            addWaiting(COMPARES);
+            return depth == 0 && text.isRead();
         }
 
-        private boolean multiplication(int depth) {
-            boolean right = signed(depth);
-            for (int k = 0; k < RULE_SIGNS && right; k++) {
-                int sign = text.next();
-                if (sign != '*' && sign != '/') {
+        private void readAheadOfThing() {
+            for (int k = 0; k < RULE_SIGNS; k++) {
+                if (text.take('-')) {
+                    push(Rule.NEGATE);
+                } else if (depth < MOST_IN_ONE_ANOTHER && text.take('(')) {
+                    push(OPENED);
+                    depth++;
+                    comparedAtDepths &= ~(1 << depth);
+                } else {
                     break;
                 }
-                text.take(sign);
-                right = signed(depth) && add(Rule.JOIN + sign);
             }
-            return right;
         }
 
-        private boolean signed(int depth) {
-            boolean negative = false;
-            for (int k = 0; k < RULE_SIGNS && text.take('-'); k++) {
-                negative = !negative;
-            }
-            if (!thing(depth)) {
-                return false;
-            }
-            return !negative || add(Rule.NEGATE);
-        }
-
-        private boolean thing(int depth) {
+        private boolean readThing() {
             int sign = text.next();
             switch (sign) {
                 case 'i': case 'g': case 'k': case 's': case 't': case 'a': case 'b': case 'c':
-                    return text.take(sign) && add(Rule.THING + sign);
-                case '(':
-                    return depth < MOST_IN_ONE_ANOTHER && text.take('(') && comparison(depth + 1) && text.take(')');
+                    rule.add(Rule.THING + sign);
+                    return text.take(sign);
                 default:
                     int number = text.number(3);
-                    return number != NONE && add(number);
+                    if (number == NONE) {
+                        return false;
+                    }
+                    rule.add(number);
+                    return true;
             }
         }
 
-        private boolean add(int step) {
-            rule.add(step);
-            return true;
+        private void readClosings() {
+            for (int k = 0; k < RULE_SIGNS && depth > 0 && text.take(')'); k++) {
+                addWaiting(COMPARES);
+                waits = Math.max(0, waits - 1);
+                depth--;
+            }
+        }
+
+        private boolean readJoin() {
+            int sign = text.next();
+            int step = Rule.JOIN + sign;
+            int binds = binding(step);
+            if (binds < COMPARES) {
+                return false;
+            }
+            if (binds == COMPARES) {
+                if ((comparedAtDepths >> depth & 1) == 1) {
+                    return false;
+                }
+                comparedAtDepths |= 1 << depth;
+            }
+            addWaiting(binds);
+            push(step);
+            return text.take(sign);
+        }
+
+        /** All that waits and binds as much at least: from the left. */
+        private void addWaiting(int binds) {
+            for (int k = 0; k < RULE_SIGNS && waits > 0 && binding(waiting[waits - 1]) >= binds; k++) {
+                waits--;
+                rule.add(waiting[waits]);
+            }
+        }
+
+        private void push(int step) {
+            if (waits < waiting.length) {
+                waiting[waits] = step;
+                waits++;
+            }
+        }
+
+        private static int binding(int step) {
+            switch (step) {
+                case Rule.NEGATE: return 4;
+                case Rule.JOIN + '*': case Rule.JOIN + '/': return 3;
+                case Rule.JOIN + '+': case Rule.JOIN + '-': return 2;
+                case Rule.JOIN + '<': case Rule.JOIN + '>': case Rule.JOIN + '=': return COMPARES;
+                default: return OPENED;
+            }
         }
     }
 
@@ -1653,16 +1688,19 @@ public final class OneChairShort {
 
     /** Tries all ways that one, or two, could go through the next quarters. */
     private static final class Search {
+        private static final int MOST_STEPS = 1000000;
+
+        int best;
         private final Town tried;
         private final Clock clock;
         private final State state = new State();
         private final int[][] levels = new int[MOST_ALONE + 1][State.CELLS];
-        private final int[] moves = new int[MOST_ALONE];
-        private final int[] bestMoves = new int[MOST_ALONE];
+        private final int[] good = new int[MOST_ALONE + 1];
+        private final int[] moves = new int[MOST_ALONE + 1];
+        private final int[] bestMoves = new int[MOST_ALONE + 1];
         private int one;
         private int other;
         private int quarters;
-        private int best;
 
         Search(Town tried, Clock clock) {
             this.tried = tried;
@@ -1678,29 +1716,40 @@ public final class OneChairShort {
             System.arraycopy(now.cells, 0, levels[0], 0, State.CELLS);
         }
 
-        private void goOn(int level, int good) {
-            if (level >= quarters) {
-                best = good;
-                System.arraycopy(moves, 0, bestMoves, 0, MOST_ALONE);
-                return;
-            }
+        /** In their order, and the next must be better: so the least row of the best ones is found. */
+        void tryAll() {
             int ways = other == NONE ? tried.rooms : tried.rooms * tried.rooms;
-            // A later way must be better, not as good: the least row comes first.
-            for (int way = 0; way < ways && good + quarters - level > best; way++) {
-                System.arraycopy(levels[level], 0, state.cells, 0, State.CELLS);
-                moves[level] = way;
-                tried.sendAlways(one, roomOfOne(way));
-                if (other != NONE) {
-                    tried.sendAlways(other, roomOfOther(way));
-                }
-                clock.pass(tried, state);
-                boolean isGood = other == NONE ? state.pose(one) == SITS : state.sitTogether(one, other);
-                int sum = isGood ? good + 1 : good;
-                if (sum + quarters - level - 1 > best) {
-                    System.arraycopy(state.cells, 0, levels[level + 1], 0, State.CELLS);
-                    goOn(level + 1, sum);
+            int level = 0;
+            moves[0] = 0;
+            for (int k = 0; k < MOST_STEPS && level >= 0; k++) {
+                boolean canBeBetter = good[level] + quarters - level > best;
+                if (level < quarters && moves[level] < ways && canBeBetter) {
+                    move(level);
+                    level++;
+                    moves[level] = 0;
+                } else {
+                    if (level == quarters && canBeBetter) {
+                        best = good[level];
+                        System.arraycopy(moves, 0, bestMoves, 0, quarters);
+                    }
+                    level--;
+                    if (level >= 0) {
+                        moves[level]++;
+                    }
                 }
             }
+        }
+
+        private void move(int level) {
+            System.arraycopy(levels[level], 0, state.cells, 0, State.CELLS);
+            tried.sendAlways(one, roomOfOne(moves[level]));
+            if (other != NONE) {
+                tried.sendAlways(other, roomOfOther(moves[level]));
+            }
+            clock.pass(tried, state);
+            boolean isGood = other == NONE ? state.pose(one) == SITS : state.sitTogether(one, other);
+            good[level + 1] = good[level] + (isGood ? 1 : 0);
+            System.arraycopy(state.cells, 0, levels[level + 1], 0, State.CELLS);
         }
 
         private int roomOfOne(int way) {

@@ -31,6 +31,9 @@ public final class ChairsTest {
         judge.due("more(4)", y.more(4), 0);
         // As it is 0 stands 2, 1 stands 3, 2 stands 3 of 4. With two chairs: then 1 asks 2: 1, 1, 2.
         judge.row("more(4): 1 stands two less", y, 4, 1);
+        y.quarters(9);
+        judge.due("more: what was stood ahead does not count", y.more(3), 0);
+        judge.due("more: three less", y.row(0), 3);
         OneChairShort full = Told.fresh("r8;r8;10;20", "0", "0");
         judge.due("more: a room of 8 stays so", full.more(5), 0);
         judge.row("more: a room of 8 stays so", full, 0, -1);
@@ -67,6 +70,7 @@ public final class ChairsTest {
         judge.due("feast changes nothing", last.count(9), 7);
         last.quarters(1);
         judge.due("feast changes no plan", last.of(3, 2), 2);
+        judge.due("feast: what was stood ahead does not count", last.feast(4), 0);
         OneChairShort eight = Told.fresh("r4;r5;1;2;3;4;5;6;7;8", "0", "0", "0", "0", "0", "1", "1", "1");
         judge.due("feast: nine chairs", eight.feast(100), 0);
         judge.row("feast: nine chairs", eight, 0, 1);

@@ -41,6 +41,11 @@ public final class RulesTest {
         // b is 3 0 0. As it is 0, 1, 2 sit: 5 2 2. By age 2, 1, 2: 6 2 1. By b 0, 1, 0: 4 2 3. By credit 1, 0, 1: 5 1 3.
         judge.due("even(3): by b, where one stood before", late.even(3), 2);
         judge.row("even(3): all four unlike", late, 3, 5, 2, 4);
+        OneChairShort giving = Told.fresh("r2;10;20;30", "0", "0", "0");
+        Told.rule(giving, 1, "i");
+        // 0 and 1 sit, 2 asks 1, then 1 asks 2, and so on: 0 2 2. By age 2 and 1 sit, 0 asks 2, 2 asks 1, 1 asks 2: 1 1 2.
+        judge.due("even(4): rule 1 stays", giving.even(4), 1);
+        judge.row("even(4): rule 1 stays", giving, 2, 1, 2, 2);
         OneChairShort away = Told.fresh("r0;5;6", "0", "-");
         judge.due("even: who is nowhere counts", away.even(200), 0);
         judge.row("even: who is nowhere counts", away, 200, 200, 200, 200);
@@ -123,6 +128,15 @@ public final class RulesTest {
         OneChairShort wide = Told.fresh("r1;5;6", "0-----------------------".substring(0, 21), "-----------------------");
         judge.due("round: 21 and 23 signs: 483", wide.round(), 483);
         judge.row("round: 21 and 23 signs", wide, 0);
+        // It sits from the end of one round into the next: as after 17, where it sat from the beginning alone, after 500 first.
+        OneChairShort edge = Told.fresh("r1;5;6", "0000000000000000----0", "-----------------------");
+        judge.due("round: after 500", edge.round(), 500);
+        judge.row("round: after 500", edge, 17);
+        OneChairShort beyond = Told.fresh("r1;5;6", "00000000000000000---0", "-----------------------");
+        judge.due("round: after 501 it would be", beyond.round(), -2);
+        OneChairShort looked = Told.fresh("r1;5;6", "0", "0");
+        looked.even(7);
+        judge.due("round: another look ahead changes nothing", looked.round(), 3);
         OneChairShort none = Told.fresh("r1;5;6", "-0", "");
         judge.due("round: who has no plan has no signs", none.round(), 2 + 1);
         judge.row("round: who has no plan has no signs", none, 1);

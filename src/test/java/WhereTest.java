@@ -40,6 +40,9 @@ public final class WhereTest {
         none.sick(1, false);
         judge.due("least: it stands first, then asks, is asked, asks again, is asked", none.least(0, 4), 2);
         judge.row("least: room 0 first is as good", none, 0, 1, 0, 1);
+        OneChairShort always = Told.fresh("r1;r1;10;20", "-----", "0");
+        judge.due("least: always somewhere, whatever its plan is", always.least(0, 3), 0);
+        judge.row("least: always somewhere: it sits first in room 0, and goes when 1 would ask", always, 0, 1, 1);
         judge.due("least: no rooms", Told.fresh("5").least(0, 0), -2);
         judge.due("least(2, 1)", none.least(2, 1), -1);
         judge.due("least(-1, 1)", none.least(-1, 1), -1);
@@ -170,6 +173,9 @@ public final class WhereTest {
         OneChairShort below = Told.fresh("r1;10;20", "000-", "-");
         Told.plan(below, 1, "---0");
         judge.due("exchange: alternate still", below.exchange(100), 0);
+        x.quarters(7);
+        judge.due("exchange: what was stood ahead does not count", x.exchange(10), 10);
+        judge.row("exchange: what was stood ahead does not count", x, 0, 1, 0);
         judge.due("exchange(101)", x.exchange(101), -1);
         judge.due("exchange(-1)", x.exchange(-1), -1);
         judge.row("exchange: the row stays", x, 0, 1, 0);
