@@ -180,6 +180,10 @@ public final class TownTest {
         judge.due("rule(2)", Told.rule(x, 2, "s"), -100);
         judge.due("rule(2): the text is empty", x.count(8), 0);
         judge.due("rule(-1) is asked first", Told.rule(x, -1, "x"), -100);
+        judge.due("rule: opened and never closed", Told.rule(x, 0, "1*((2<(3+"), -10);
+        judge.due("rule: a right one behind a wrong one", Told.rule(x, 0, "(1+2)*3<9"), 0);
+        judge.due("rule: nothing of the wrong one is left", x.of(0, 9), 0);
+        judge.due("rule: a ) too many behind a wrong one", Told.rule(x, 0, "1)"), -2);
         judge.due("rule: none", x.rule(0), 0);
         judge.due("rule: none is t", x.of(0, 9), 0);
     }
