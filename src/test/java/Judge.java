@@ -5,13 +5,23 @@ import java.util.function.IntSupplier;
 final class Judge {
     private int right;
     private int wrong;
+    private String words = "";
+
+    /** The document's words that the answers from here on are held against: told with those that are wrong. */
+    void sentence(String ofTheDocument) {
+        words = "\"" + ofTheDocument + "\": ";
+    }
+
+    private void tell(String answer) {
+        wrong++;
+        System.out.println(words + answer);
+    }
 
     void due(String call, long answer, long due) {
         if (answer == due) {
             right++;
         } else {
-            wrong++;
-            System.out.println(call + " answered " + answer + ", due is " + due);
+            tell(call + " answered " + answer + ", due is " + due);
         }
     }
 
@@ -19,11 +29,18 @@ final class Judge {
         due(call, answer ? 1 : 0, due ? 1 : 0);
     }
 
+    void same(String call, String is, String due) {
+        if (is.equals(due)) {
+            right++;
+        } else {
+            tell(call + ": there is\n  " + is + "\n  where there was\n  " + due);
+        }
+    }
+
     void noSuch(String call, IntSupplier run) {
         try {
             int answer = run.getAsInt();
-            wrong++;
-            System.out.println(call + " answered " + answer + ", due is NoSuchElementException");
+            tell(call + " answered " + answer + ", due is NoSuchElementException");
         } catch (NoSuchElementException expected) {
             right++;
         }

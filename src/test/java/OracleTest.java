@@ -3,36 +3,39 @@ import java.util.Random;
 import java.util.function.IntSupplier;
 
 /**
- * Random calls on the program and on the oracle, and all that can be seen after each: every answer must be the same.
- * Called by hand with a first seed, how many runs, how many calls a run, it goes further; the seeds of CI are written here.
+ * Random calls on the program and on the oracle, and looks at what can be seen after each: every answer must be the same.
+ * A run ends with the 512th call, as what later ones answer is free. Called by hand with a first seed and how many runs, it
+ * goes further; the seeds of CI are written here.
  */
 public final class OracleTest {
     private static final int CALLS = 43;
+    private static final int MOST_MADE = 512;
 
     private final Random random;
     private final OneChairShort x = new OneChairShort();
     private final Oracle o = new Oracle();
     private final StringBuilder story = new StringBuilder();
+    private int made;
 
     private OracleTest(long seed) {
         random = new Random(seed);
     }
 
     public static void main(String[] args) {
-        boolean byHand = args.length == 3;
+        boolean byHand = args.length == 2;
         long first = byHand ? Long.parseLong(args[0]) : 1;
-        int runs = byHand ? Integer.parseInt(args[1]) : 600;
-        int calls = byHand ? Integer.parseInt(args[2]) : 120;
+        int runs = byHand ? Integer.parseInt(args[1]) : 1500;
         for (long seed = first; seed < first + runs; seed++) {
-            new OracleTest(seed).run(seed, calls);
+            new OracleTest(seed).run(seed);
         }
-        System.out.println("OracleTest: " + runs + " runs of " + calls + " calls, all answers the same");
+        System.out.println("OracleTest: " + runs + " runs of " + MOST_MADE + " calls, all answers the same");
     }
 
-    private void run(long seed, int calls) {
+    private void run(long seed) {
+        story.append("seed ").append(seed).append('\n');
         say(random.nextInt(5) == 0 ? town() : crowdedTown());
         same("town()", x::town, o::town);
-        for (int person = 0; person < 8; person++) {
+        for (int person = 0; person < Math.min(8, o.count(0) + random.nextInt(2)); person++) {
             int who = person;
             say(plan());
             same("plan(" + who + ")", () -> x.plan(who), () -> o.plan(who));
@@ -40,9 +43,9 @@ public final class OracleTest {
         if (random.nextInt(3) > 0) {
             rules();
         }
-        for (int k = 0; k < calls; k++) {
+        while (made < MOST_MADE) {
             call(random.nextInt(CALLS));
-            look(seed);
+            look();
         }
     }
 
@@ -54,29 +57,32 @@ public final class OracleTest {
         }
     }
 
-    private void look(long seed) {
-        for (int what = -1; what <= 10; what++) {
+    /** The whole ROW, and now and then some counts, or one of PEOPLE. */
+    private void look() {
+        if (random.nextInt(3) > 0) {
+            same("count(7)", () -> x.count(7), () -> o.count(7));
+            for (int i = -1; i <= o.count(7); i++) {
+                int at = i;
+                same("row(" + at + ")", () -> x.row(at), () -> o.row(at));
+            }
+        }
+        for (int k = 0; k < 2; k++) {
+            int what = random.nextInt(12) - 1;
+            same("count(" + what + ")", () -> x.count(what), () -> o.count(what));
+        }
+        if (random.nextInt(8) == 0 && o.count(0) > 0) {
+            lookAt(random.nextInt(o.count(0)));
+        }
+    }
+
+    private void lookAt(int person) {
+        for (int what = 0; what <= 10; what++) {
             int w = what;
-            same("seed " + seed + ": count(" + w + ")", () -> x.count(w), () -> o.count(w));
+            same("of(" + person + ", " + w + ")", () -> x.of(person, w), () -> o.of(person, w));
         }
-        for (int i = -1; i <= o.count(7); i++) {
-            int at = i;
-            same("row(" + at + ")", () -> x.row(at), () -> o.row(at));
-        }
-        if (random.nextInt(4) > 0) {
-            return;
-        }
-        for (int person = 0; person < o.count(0); person++) {
-            for (int what = 0; what <= 10; what++) {
-                int p = person;
-                int w = what;
-                same("of(" + p + ", " + w + ")", () -> x.of(p, w), () -> o.of(p, w));
-            }
-            for (int other = 0; other < o.count(0); other++) {
-                int p = person;
-                int q = other;
-                same("gave(" + p + ", " + q + ")", () -> x.gave(p, q), () -> o.gave(p, q));
-            }
+        for (int other = 0; other < o.count(0); other++) {
+            int q = other;
+            same("gave(" + person + ", " + q + ")", () -> x.gave(person, q), () -> o.gave(person, q));
         }
     }
 
@@ -89,6 +95,10 @@ public final class OracleTest {
     }
 
     private void same(String call, IntSupplier program, IntSupplier oracle) {
+        if (made >= MOST_MADE) {
+            return;
+        }
+        made++;
         String is = answer(program);
         String due = answer(oracle);
         if (!call.startsWith("row") && !call.contains("count(") && !call.startsWith("of(") && !call.startsWith("gave(")) {
@@ -106,6 +116,12 @@ public final class OracleTest {
     }
 
     private void say(String text) {
+        int calls = 2 + (text.length() + 3) / 4;
+        if (made + calls >= MOST_MADE) {
+            made = MOST_MADE;
+            return;
+        }
+        made += calls;
         story.append("THE TEXT is '").append(text).append("'\n");
         x.end(0);
         o.end(0);
