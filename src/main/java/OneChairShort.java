@@ -680,10 +680,10 @@ public final class OneChairShort {
         for (int k = 1; k <= FARTHEST; k++) {
             clock.pass(town, future);
             remember(k);
-            for (int m = 1; m * period <= k; m++) {
-                if (wereAlike(k, k - m * period)) {
+            for (int earlier = k - period; earlier >= 0; earlier -= period) {
+                if (wereAlike(k, earlier)) {
                     answers.clear();
-                    answers.add(k - m * period);
+                    answers.add(earlier);
                     return k;
                 }
             }
@@ -712,7 +712,11 @@ public final class OneChairShort {
     // ---- kept
 
     public boolean keep(int i) {
-        return isWithin(i, 0, MOST_KEPT - 1) && memory.put(i, town, state);
+        if (!isWithin(i, 0, MOST_KEPT - 1)) {
+            return false;
+        }
+        memory.put(i, town, state);
+        return true;
     }
 
     public boolean again(int i) {
@@ -1579,13 +1583,12 @@ public final class OneChairShort {
             undoable = 0;
         }
 
-        boolean put(int i, Town town, State state) {
+        void put(int i, Town town, State state) {
             System.arraycopy(state.cells, 0, states[i], 0, State.CELLS);
             System.arraycopy(town.sick, 0, sick[i], 0, MOST_PEOPLE);
             System.arraycopy(town.chairs, 0, chairs[i], 0, MOST_ROOMS);
             rooms[i] = town.rooms;
             people[i] = town.people;
-            return true;
         }
 
         /** Rooms and people never go: where there are as many as then, none came since. */

@@ -162,6 +162,10 @@ public final class FaceTest {
         while (library.find()) {
             judge.due("the program may use " + library.group(), may.contains(library.group()), true);
         }
+        for (String line : code.lines().filter(one -> one.contains("new ")).toList()) {
+            boolean isRow = line.matches(" +(private )?final .* = new .*;");
+            judge.due("made once, with the object: " + line, isRow || line.contains("throw new NoSuchElementException();"), true);
+        }
         Matcher method = Pattern.compile("(?m)^( {4}| {8})(?=\\S).*\\) (throws \\w+ )?\\{\n((?:\\1 .*\n|\n)*)\\1}").matcher(code);
         int methods = 0;
         while (method.find()) {
